@@ -12,6 +12,7 @@ final class FaultTest {
         declarations();
         calls();
         order();
+        editedTexts();
         wrongQuestions();
         Check.finish();
     }
@@ -110,6 +111,11 @@ final class FaultTest {
         due("fn f(){print 1=2;}", "1@14");
         due("fn f(){print f()();}", "1@16");
         due("fn f(){print 2(3);}", "1@14");
+        // These numbers and this name are held as the codes of the signs are.
+        due("fn f(){print 1 43 2;}", "1@15");
+        due("fn f(){print 1 60 2;}", "1@15");
+        due("fn f 40 ){}", "1@5");
+        due("fn f(){print 1 ka 2;}", "1@15");
     }
 
     private static void openBlocks() {
@@ -175,6 +181,19 @@ final class FaultTest {
     private static void order() {
         due("x fn f(a,a){print b+g(c)+f(1);}fn f(){}fn h(){", "1@0 2@9 3@18 4@20 3@22 5@25 6@34 1@46");
         due("fn f(a){print f(b,c);}", "5@14 3@16 3@18");
+    }
+
+    /** What was behind the end before must not be seen any more. */
+    private static void editedTexts() {
+        String whole = "fn f(){print (1)*f();}";
+        ProgramDesk desk = Check.desk(whole);
+        Check.is("faults of the whole text", desk.faults(), 0);
+        for (int length = whole.length() - 1; length > 0; length--) {
+            desk.remove(length, 1);
+            String left = Check.text(desk);
+            Check.is("faults of what is left: " + left, Check.faults(desk), Check.faults(Check.desk(left)));
+            Check.is("one fault in " + left, desk.faults(), 1);
+        }
     }
 
     private static void wrongQuestions() {

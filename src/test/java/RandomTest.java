@@ -4,7 +4,7 @@ import java.util.Random;
 
 /** All promises: random programs, whole and spoilt ones, on the desk and on the model. */
 final class RandomTest {
-    private static final int PROGRAMS = 6000;
+    private static final int PROGRAMS = 3000;
     private static final String[] NAMES = {"a", "b", "c", "n"};
     private static final String[] FUNCTIONS = {"main", "f", "g", "a"};
     private static final String[] NEW_NAMES = {"a", "b", "c", "n", "f", "g", "main", "q", "longer", "let", "sixteen", "fnn"};
@@ -198,6 +198,7 @@ final class RandomTest {
         ProgramDesk desk = Check.desk(text);
         compareReading(model, desk);
         compareRun(model, desk);
+        edit(text);
         good += model.faults().isEmpty() ? 1 : 0;
         for (int change = 0; change < 6; change++) {
             int place = somePlace(model);
@@ -222,6 +223,26 @@ final class RandomTest {
             model = new Model(due.text);
             compareReading(model, desk);
             Check.is(what + " in " + model.text + ", the run then", outcomeOf(model), before);
+        }
+    }
+
+    /** A text that is edited must be read as one that was typed so. */
+    private static void edit(String text) {
+        ProgramDesk desk = Check.desk(text);
+        StringBuilder now = new StringBuilder(text);
+        for (int change = 0; change < 5; change++) {
+            int at = random.nextInt(now.length() + 1);
+            if (random.nextBoolean() && now.length() < 240) {
+                char c = (char) (32 + random.nextInt(95));
+                now.insert(at, c);
+                desk.insert(at, c);
+            } else {
+                int n = Math.min(random.nextInt(8), now.length() - at);
+                now.delete(at, at + n);
+                desk.remove(at, n);
+            }
+            Check.is("the edited text", Check.text(desk), now.toString());
+            compareReading(new Model(now.toString()), desk);
         }
     }
 
