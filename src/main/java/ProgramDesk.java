@@ -611,14 +611,14 @@ public final class ProgramDesk {
         static final int JUMP = 6;
         static final int PRINT = 7;
         static final int RETURN = 8;
-        /** The other ones bear the code of their sign. */
+        // The instructions for + - * < bear the codes of these signs, which are none of the above.
 
         final int[] operation = new int[MOST];
         /** A number, a NAME token or the instruction to go to. */
         final int[] operand = new int[MOST];
         int count;
 
-        /** No statement has more instructions than tokens, so all of them find room. */
+        /** Nothing that is read has more instructions than tokens, so all of them find room. */
         void add(int what, int with) {
             if (count < MOST) {
                 operation[count] = what;
@@ -685,7 +685,7 @@ public final class ProgramDesk {
                     return false;
                 }
             }
-            if (next < limit) {
+            if (blocks > 0 || next < limit) {
                 return false;
             }
             code.add(Code.PUSH, 0);
@@ -1046,7 +1046,10 @@ public final class ProgramDesk {
         }
     }
 
-    /** Runs a draft without faults, and keeps what came of the latest run. */
+    /**
+     * Runs a draft without faults, in which every name is bound and every call has a function; keeps
+     * what came of the latest run.
+     */
     private static final class Machine {
         static final int KEPT = 32;
         private static final int CALLS = 8;
