@@ -1,12 +1,43 @@
+import java.io.IOException;
+import java.nio.file.Files;
+import java.nio.file.Path;
+
 /** What the tests share: a desk with a text, and answers compared with those that are due. */
 final class Check {
     interface Call {
         void make();
     }
 
+    interface Question {
+        boolean ask();
+    }
+
     private static int wrong = 0;
+    private static String sentence = "";
+    private static String document = "";
 
     private Check() {
+    }
+
+    /**
+     * The words of the document that are tested from here on. They must stand there, so that a test
+     * can't outlive its sentence.
+     */
+    static void sentence(String words) {
+        sentence = "";
+        is("in the document: " + words, document().contains(words), true);
+        sentence = "[" + words + "] ";
+    }
+
+    private static String document() {
+        if (document.isEmpty()) {
+            try {
+                document = Files.readString(Path.of("../shared/DOC.md")).replaceAll("\\s+", " ");
+            } catch (IOException e) {
+                document = "none";
+            }
+        }
+        return document;
     }
 
     static ProgramDesk desk(String text) {
@@ -21,7 +52,8 @@ final class Check {
 
     static String text(ProgramDesk desk) {
         StringBuilder text = new StringBuilder();
-        for (int at = 0; at < desk.length(); at++) {
+        int length = desk.length();
+        for (int at = 0; at < length; at++) {
             text.append(desk.letter(at));
         }
         return text.toString();
@@ -29,15 +61,18 @@ final class Check {
 
     static String faults(ProgramDesk desk) {
         StringBuilder faults = new StringBuilder();
-        for (int k = 0; k < desk.faults(); k++) {
-            faults.append(k == 0 ? "" : " ").append(desk.fault(k) % 8).append('@').append(desk.fault(k) / 8);
+        int count = desk.faults();
+        for (int k = 0; k < count; k++) {
+            int fault = desk.fault(k);
+            faults.append(k == 0 ? "" : " ").append(fault % 8).append('@').append(fault / 8);
         }
         return faults.toString();
     }
 
     static String printed(ProgramDesk desk) {
         StringBuilder printed = new StringBuilder();
-        for (int j = 0; j < desk.output(-1) && j < 32; j++) {
+        int count = desk.output(-1);
+        for (int j = 0; j < count && j < 32; j++) {
             printed.append(j == 0 ? "" : " ").append(desk.output(j));
         }
         return printed.toString();
@@ -55,6 +90,11 @@ final class Check {
         return packed;
     }
 
+    /** A text, filled up with blanks at its end. */
+    static String filled(String text, int length) {
+        return text + repeat(" ", length - text.length());
+    }
+
     static void is(String what, long got, long due) {
         is(what, Long.toString(got), Long.toString(due));
     }
@@ -66,7 +106,7 @@ final class Check {
     static void is(String what, String got, String due) {
         if (!got.equals(due)) {
             wrong++;
-            System.out.println(what + ": answered " + got + ", due is " + due);
+            System.out.println(sentence + what + ": answered " + got + ", due is " + due);
         }
     }
 
@@ -74,19 +114,30 @@ final class Check {
         is(what, outcome(call), due.getSimpleName());
     }
 
-    /** As refuses, and the text and the output must be as before. */
+    /** As refuses, and all that can be asked must be answered as before. */
     static void refusesAndKeeps(String what, Class<? extends RuntimeException> due, ProgramDesk desk, Call call) {
         String before = state(desk);
         refuses(what, due, call);
         is(what + ", what is there afterwards", state(desk), before);
     }
 
+    /** For the calls that answer false. */
+    static void saysNoAndKeeps(String what, ProgramDesk desk, Question question) {
+        String before = state(desk);
+        is(what, question.ask(), false);
+        is(what + ", what is there afterwards", state(desk), before);
+    }
+
     static String state(ProgramDesk desk) {
         StringBuilder state = new StringBuilder(text(desk)).append('|').append(faults(desk)).append('|');
-        for (int k = 0; k < desk.tokens(); k++) {
-            state.append(desk.token(k, 3)).append(' ');
+        int count = desk.tokens();
+        for (int k = 0; k < count; k++) {
+            for (int what = 0; what < 4; what++) {
+                state.append(desk.token(k, what)).append(what == 3 ? ' ' : ',');
+            }
         }
-        return state.append('|').append(printed(desk)).append('|').append(desk.output(-2)).toString();
+        return state.append('|').append(desk.output(-1)).append(':').append(printed(desk))
+            .append('|').append(desk.output(-2)).toString();
     }
 
     static String outcome(Call call) {
