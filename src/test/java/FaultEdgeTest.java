@@ -11,6 +11,7 @@ final class FaultEdgeTest {
         broken();
         declaredBefore();
         noDeclaration();
+        placesOfFaults();
         noFunction();
         otherNumber();
         sameFunctionName();
@@ -113,6 +114,17 @@ final class FaultEdgeTest {
         due("fn f(a){print ab;}", "3@14");
         due("fn f(ab){print a;}", "3@15");
         due("fn f(){if b{while c{return d;}}}", "3@10 3@18 3@27");
+    }
+
+    private static void placesOfFaults() {
+        Check.sentence("In functions, each at the first character of its NAME token:");
+        due("fn ff(abc,  abc){}", "2@12");
+        due("fn ff(){let abc=1;let  abc  =2;}", "2@23");
+        due("fn ff(){print  abc ;  abcdef =1;}", "3@15 3@22");
+        due("fn ff(){print  gg (1);}", "4@15");
+        due("fn ff(){print  ff (1);}", "5@15");
+        due("fn ff(){}fn  ff (){}", "6@13");
+        due("  fn  ff ( ) { print 1+  ff  ( ff ( 1 ) ) ; }", "5@25 5@31");
     }
 
     private static void noFunction() {

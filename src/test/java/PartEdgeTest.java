@@ -208,6 +208,9 @@ final class PartEdgeTest {
         due("fn f(a){print f(a b);}", "1@18");
         due("fn f(a){print f a;}", "1@16");
         due("fn f(a){print f(a;}", "1@17");
+        due("fn f(a){print f(;}", "1@16");
+        due("fn f(a){print f(a,;}", "1@18");
+        due("fn f(a){print f(a+;}", "1@18");
         due("fn f(a){print f();}", "5@14");
         due("fn f(a){print 1(a);}", "1@15");
         due("fn f(a){print f(a)(a);}", "1@18");

@@ -9,6 +9,7 @@ final class ReferenceEdgeTest {
         boundToWhatTheyMean();
         notBound();
         firstAndLastReference();
+        boundToTheSame();
         placesOfAToken();
         wrongPlaces();
         belowZero();
@@ -41,6 +42,10 @@ final class ReferenceEdgeTest {
     }
 
     private static void boundToWhatTheyMean() {
+        Check.sentence("A variable or an assignment (NAME =) means the declaration of that name that is in force there.");
+        due("fn f(a,b){b=a;}", "3>3 5>5 7>7 10>7 12>5");
+        due("fn f(a){{let b=a;b=a;}let b=a;b=a;}", "3>3 5>5 13>13 15>5 17>13 19>5 26>26 28>5 30>26 32>5");
+        due("fn f(a){{let a=1;}a=a;}", "3>3 5>5 13>13 18>5 20>5");
         Check.sentence("others to what they mean.");
         due("fn f(a){a=a;}", "3>3 5>5 8>5 10>5");
         due("fn f(a){print f(a);}", "3>3 5>5 14>3 16>5");
@@ -83,6 +88,20 @@ final class ReferenceEdgeTest {
         ProgramDesk full = Check.desk("fn f(a){print " + Check.repeat("a+", 111) + "a;}");
         Check.is("the last of many", full.reference(5, 112), 236);
         Check.is("one more than many", full.reference(5, 113), ProgramDesk.NONE);
+    }
+
+    private static void boundToTheSame() {
+        Check.sentence("REFERENCES of a token: all that are bound to the same.");
+        ProgramDesk desk = Check.desk("fn a(a){let b=a;{let a=b;print a;}return a(a);}");
+        int[][] same = {{3, 41}, {5, 14, 43}, {12, 23}, {21, 31}};
+        for (int[] places : same) {
+            for (int at : places) {
+                for (int j = 0; j < places.length; j++) {
+                    Check.is("reference(" + at + ", " + j + ")", desk.reference(at, j), places[j]);
+                }
+                Check.is("one more at " + at, desk.reference(at, places.length), ProgramDesk.NONE);
+            }
+        }
     }
 
     private static void placesOfAToken() {

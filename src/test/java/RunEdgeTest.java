@@ -11,6 +11,7 @@ final class RunEdgeTest {
         less();
         leftToRight();
         variablesOfACall();
+        valuesThatWait();
         ifAndWhile();
         returns();
         lets();
@@ -95,6 +96,28 @@ final class RunEdgeTest {
         due("fn f(a){a=a+1;let b=a;return b;}fn main(a){let b=9;print f(a);print a;print b;}", 4, 0, "5 4 9", 0);
         due("fn main(n){let a=n;if 0<n{print main(n-1);}return a;}", 3, 0, "0 1 2", 3);
         due("fn main(){return 0;}", 9, 0, "", 0);
+        // Eight calls, each of which looks at all its variables again when the others have ended.
+        due("fn main(a,b,c){let d=a*3;let e=c-1;if a<8{let f=main(a+1,a*5,e)+d;print b*100+f;print d-c;}print e*10+a;return e;}",
+            1, 0, "-72 3013 27 -63 2511 23 -54 2009 19 -45 1507 15 -36 1005 11 -27 503 7 -18 1 3 -9", -1);
+    }
+
+    /** Calls that begin while the values of others wait. */
+    private static void valuesThatWait() {
+        Check.sentence("Expressions of a call, and the two sides of + - * <, are worked out from the left to the right.");
+        StringBuilder names = new StringBuilder("a");
+        StringBuilder ones = new StringBuilder("1");
+        for (char c = 'b'; c <= 'z'; c++) {
+            names.append(',').append(c);
+            ones.append(",").append((char) ('0' + (c - 'a') % 10));
+        }
+        String head = "fn g(" + names + "){return z+y*10;}";
+        String text = head + "fn main(n){if n{return g(" + ones.substring(0, ones.length() - 1) + "main(n-1)+1);}return 7;}";
+        ProgramDesk desk = Check.desk(text);
+        due(desk, text, 6, 0, "", 7 + 6 * 41);
+        for (int time = 0; time < 40; time++) {
+            due(desk, text, 9, 2, "", 0);
+        }
+        due(desk, text, 6, 0, "", 7 + 6 * 41);
     }
 
     private static void ifAndWhile() {
@@ -243,6 +266,16 @@ final class RunEdgeTest {
     }
 
     private static void printedCounts() {
+        Check.sentence("What was printed is the OUTPUT.");
+        due("fn f(){print 2;return 9;}fn main(){print 1;let a=f();print a;}", 0, 0, "1 2 9", 0);
+        due("fn main(){return 4;}", 0, 0, "", 4);
+        Check.sentence("for j = -1 how many values (0 before any run);");
+        ProgramDesk none = Check.desk("fn main(n){print n;if n{print n;}}");
+        Check.is("before any run", none.output(-1), 0);
+        none.run(1);
+        Check.is("two", none.output(-1), 2);
+        none.run(0);
+        Check.is("one", none.output(-1), 1);
         Check.sentence("(All that is printed counts, the first 32 are kept.)");
         ProgramDesk desk = Check.desk("fn main(n){let i=0;while i<n{print i;i=i+1;}}");
         for (int n : new int[] {31, 32, 33, 64}) {

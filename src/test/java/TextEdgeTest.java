@@ -8,6 +8,7 @@ final class TextEdgeTest {
     public static void main(String[] args) {
         newObject();
         codes();
+        typed();
         fullByType();
         wordsThatFit();
         noSuchWord();
@@ -20,6 +21,7 @@ final class TextEdgeTest {
         orderOfRemove();
         lengths();
         letters();
+        lastCalls();
         Check.finish();
     }
 
@@ -84,6 +86,15 @@ final class TextEdgeTest {
             Check.is("type code " + code, one.type(c), due);
             Check.is("insert code " + code, Check.outcome(() -> one.insert(0, c)), due ? "nothing thrown" : "IllegalArgumentException");
         }
+    }
+
+    private static void typed() {
+        Check.sentence("Appends a character: true;");
+        ProgramDesk desk = new ProgramDesk();
+        Check.is("the first", desk.type('b'), true);
+        Check.is("the second", desk.type(' '), true);
+        Check.is("the third", desk.type('a'), true);
+        Check.is("the text", Check.text(desk), "b a");
     }
 
     private static void fullByType() {
@@ -280,5 +291,26 @@ final class TextEdgeTest {
         Check.refusesAndKeeps("place 240", IndexOutOfBoundsException.class, full, () -> full.letter(240));
         full.remove(239, 1);
         Check.refusesAndKeeps("place 239, taken out", IndexOutOfBoundsException.class, full, () -> full.letter(239));
+    }
+
+    private static void lastCalls() {
+        Check.sentence("An object is used for at most 512 calls after it has been made");
+        ProgramDesk desk = new ProgramDesk();
+        int calls = 0;
+        for (char c : "fn main(n){print n;return n;}".toCharArray()) {
+            desk.type(c);
+            calls++;
+        }
+        for (; calls < 506; calls += 2) {
+            desk.insert(0, ' ');
+            desk.remove(0, 1);
+        }
+        for (; calls < 508; calls++) {
+            desk.run(calls);
+        }
+        Check.is("call 509", desk.output(-2), 507);
+        Check.is("call 510", desk.rename(8, 2L), 3);
+        Check.is("call 511", desk.faults(), 0);
+        Check.is("call 512", desk.reference(8, 2), 26);
     }
 }
