@@ -6,6 +6,7 @@ final class EditedTest {
         "",
         "fn main(){let a=1;let b=2;let c=a*b+(a-b);print c;}",
         "fn main(a,b,c,d){print a;print b+c+d;}",
+        "fn main(a,b,c){print c;}",
         "x fn g(){print g(1,2);} fn g(a){b=a;} fn h(",
         "fn main(n){if n{return main(n-1)+1;}}",
         "fn a(){}fn b(){}fn c(){}fn main(){print a()+b()*c();}",
@@ -85,7 +86,7 @@ final class EditedTest {
             for (String second : TEXTS) {
                 String what = "instead of " + first;
                 same(what, instead(first, second));
-                for (int at = 0; at < second.length(); at++) {
+                for (int at = 0; at < Math.max(first.length(), second.length()); at++) {
                     int place = at;
                     ProgramDesk desk = instead(first, second);
                     ProgramDesk fresh = Check.desk(second);
