@@ -17,7 +17,6 @@ final class FaceTest {
         Check.is("public constructors", ProgramDesk.class.getConstructors().length, 1);
         methods();
         fields();
-        readme();
         Check.finish();
     }
 
@@ -67,18 +66,5 @@ final class FaceTest {
 
     private static boolean isLoose(Field field) {
         return Modifier.isStatic(field.getModifiers()) && !Modifier.isFinal(field.getModifiers());
-    }
-
-    /** The example of README.md. */
-    private static void readme() {
-        ProgramDesk desk = Check.desk("fn main(n){let a=n+2;print a*a;return a;}");
-        Check.is("README: faults", desk.faults(), 0);
-        Check.is("README: run", desk.run(1), 0);
-        Check.is("README: printed", desk.output(0), 9);
-        Check.is("README: given", desk.output(-2), 3);
-        Check.is("README: reference", desk.reference(15, 1), 27);
-        Check.is("README: rename", desk.rename(15, 2L), 4);
-        Check.is("README: inline", desk.inline(15), 3);
-        Check.is("README: the text", Check.text(desk), "fn main(n){print (n+2)*(n+2);return (n+2);}");
     }
 }
